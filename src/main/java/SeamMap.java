@@ -31,8 +31,8 @@ public final class SeamMap {
     private static final int LEFT = 2;
     private static final int UP = 3;
 
+    /** The kinds of seams; the one between these two is wrapped. */
     private static final int CLOSED = 0;
-    private static final int WRAPPED = 1;
     private static final int FLIPPED = 2;
 
     /** Bits that tell what a step crosses; the first two together are the class of a loop. */
@@ -918,13 +918,12 @@ public final class SeamMap {
             return tile;
         }
 
-        /** The farthest tile from the tile that was measured from. */
-        int farthestTile(int tile) {
-            int farthest = tile;
-            for (int other = 0; other < surface.tiles(); other++) {
-                boolean sameButBefore = lengths[other] == lengths[farthest] && other < farthest;
-                if (lengths[other] > lengths[farthest] || sameButBefore) {
-                    farthest = other;
+        /** The farthest tile from the tile that was measured from, which is given. */
+        int farthestTile(int source) {
+            int farthest = source;
+            for (int tile = 0; tile < surface.tiles(); tile++) {
+                if (lengths[tile] > lengths[farthest]) {
+                    farthest = tile;
                 }
             }
             return farthest;

@@ -27,6 +27,20 @@ final class Check {
         due(what, holds ? 1 : 0, 1);
     }
 
+    /** The labels of the tiles from 0 on. */
+    void labels(SeamMap map, int... due) {
+        for (int tile = 0; tile < due.length; tile++) {
+            due("label(" + tile + ")", map.label(tile), due[tile]);
+        }
+    }
+
+    /** The kinds of the tiles from 0 on. */
+    void kinds(SeamMap map, int... due) {
+        for (int tile = 0; tile < due.length; tile++) {
+            due("kind(" + tile + ")", map.kind(tile), due[tile]);
+        }
+    }
+
     int wrong() {
         return wrong;
     }

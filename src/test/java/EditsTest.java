@@ -26,25 +26,13 @@ public final class EditsTest {
         check.end();
     }
 
-    private static void labels(SeamMap map, int... due) {
-        for (int tile = 0; tile < due.length; tile++) {
-            check.due("label(" + tile + ")", map.label(tile), due[tile]);
-        }
-    }
-
-    private static void kinds(SeamMap map, int... due) {
-        for (int tile = 0; tile < due.length; tile++) {
-            check.due("kind(" + tile + ")", map.kind(tile), due[tile]);
-        }
-    }
-
     private static void setTile() {
         check.promise(11, "setTile");
         SeamMap map = new SeamMap();
         map.reset(4, 3);
         check.due("setTile(0, 1)", map.setTile(0, 1), 11);
         check.due("kind(0)", map.kind(0), 1);
-        labels(map, 0, 1, 1, 1, 1, 1, 1, 1, 1, 1, 1, 1);
+        check.labels(map, 0, 1, 1, 1, 1, 1, 1, 1, 1, 1, 1, 1);
         check.due("setTile(0, 1)", map.setTile(0, 1), 0);
         check.due("value(8)", map.value(8), 2);
         check.due("setTile(0, 5)", map.setTile(0, 5), 0);
@@ -60,11 +48,11 @@ public final class EditsTest {
         check.due("setTile(1, 2)", map.setTile(1, 2), 0);
         check.due("setTile(5, 2)", map.setTile(5, 2), 0);
         check.due("setTile(9, 2)", map.setTile(9, 2), 6);
-        labels(map, 0, 1, 2, 2, 0, 1, 2, 2, 0, 1, 2, 2);
+        check.labels(map, 0, 1, 2, 2, 0, 1, 2, 2, 0, 1, 2, 2);
         check.due("setTile(2, 2)", map.setTile(2, 2), 5);
-        labels(map, 0, 1, 1, 3, 0, 1, 3, 3, 0, 1, 3, 3);
+        check.labels(map, 0, 1, 1, 3, 0, 1, 3, 3, 0, 1, 3, 3);
         check.due("setTile(1, 0)", map.setTile(1, 0), 3);
-        labels(map, 0, 0, 2, 3, 0, 5, 3, 3, 0, 5, 3, 3);
+        check.labels(map, 0, 0, 2, 3, 0, 5, 3, 3, 0, 5, 3, 3);
     }
 
     private static void setTileOverSeams() {
@@ -77,7 +65,7 @@ public final class EditsTest {
         check.due("setTile(9, 2)", map.setTile(9, 2), 0);
         check.due("value(6)", map.value(6), 2);
         check.due("setTile(0, 2)", map.setTile(0, 2), 11);
-        labels(map, 0, 0, 2, 2, 2, 0, 2, 2, 2, 0, 2, 2);
+        check.labels(map, 0, 0, 2, 2, 2, 0, 2, 2, 2, 0, 2, 2);
     }
 
     private static void setTileWithWrongArguments() {
@@ -99,10 +87,10 @@ public final class EditsTest {
         check.promise(12, "fill");
         SeamMap map = Check.map("0200/0200/0200");
         check.due("fill(4, 1)", map.fill(4, 1), 3);
-        kinds(map, 1, 2, 0, 0, 1, 2, 0, 0, 1, 2, 0, 0);
+        check.kinds(map, 1, 2, 0, 0, 1, 2, 0, 0, 1, 2, 0, 0);
         check.due("fill(11, 2)", map.fill(11, 2), 9);
-        kinds(map, 1, 2, 2, 2, 1, 2, 2, 2, 1, 2, 2, 2);
-        labels(map, 0, 1, 1, 1, 0, 1, 1, 1, 0, 1, 1, 1);
+        check.kinds(map, 1, 2, 2, 2, 1, 2, 2, 2, 1, 2, 2, 2);
+        check.labels(map, 0, 1, 1, 1, 0, 1, 1, 1, 0, 1, 1, 1);
         check.due("fill(6, 1)", map.fill(6, 1), 12);
         check.due("value(6)", map.value(6), 1);
         check.due("value(8)", map.value(8), 4);
@@ -114,7 +102,7 @@ public final class EditsTest {
         check.due("fill(1, 2)", map.fill(1, 2), 3);
         check.due("fill(2, 0)", map.fill(2, 0), 6);
         check.due("value(8)", map.value(8), 3);
-        kinds(map, 0, 2, 0, 0, 0, 2, 0, 0, 0, 2, 0, 0);
+        check.kinds(map, 0, 2, 0, 0, 0, 2, 0, 0, 0, 2, 0, 0);
     }
 
     private static void fillOverSeams() {
@@ -122,9 +110,9 @@ public final class EditsTest {
         SeamMap map = Check.map("0211/3222/1120");
         map.setSeam(false, 2, 2);
         check.due("fill(0, 4), beside 11 over the seam", map.fill(0, 4), 2);
-        kinds(map, 4, 2, 1, 1, 3, 2, 2, 2, 1, 1, 2, 4);
+        check.kinds(map, 4, 2, 1, 1, 3, 2, 2, 2, 1, 1, 2, 4);
         check.due("fill(8, 5)", map.fill(8, 5), 4);
-        kinds(map, 4, 2, 5, 5, 3, 2, 2, 2, 5, 5, 2, 4);
+        check.kinds(map, 4, 2, 5, 5, 3, 2, 2, 2, 5, 5, 2, 4);
     }
 
     private static void fillWithWrongArguments() {
@@ -177,14 +165,14 @@ public final class EditsTest {
         map.type('0');
         map.readTiles();
         check.due("value(8), as errors are no edits", map.value(8), 3);
-        kinds(map, 3, 2, 0, 0, 1, 2, 0, 0, 1, 2, 0, 0);
+        check.kinds(map, 3, 2, 0, 0, 1, 2, 0, 0, 1, 2, 0, 0);
         check.due("undo()", map.undo(), 2);
-        kinds(map, 1, 2, 0, 0, 1, 2, 0, 0, 1, 2, 0, 0);
+        check.kinds(map, 1, 2, 0, 0, 1, 2, 0, 0, 1, 2, 0, 0);
         check.due("undo()", map.undo(), 1);
-        kinds(map, 0, 2, 0, 0, 0, 2, 0, 0, 0, 2, 0, 0);
-        labels(map, 0, 1, 2, 2, 0, 1, 2, 2, 0, 1, 2, 2);
+        check.kinds(map, 0, 2, 0, 0, 0, 2, 0, 0, 0, 2, 0, 0);
+        check.labels(map, 0, 1, 2, 2, 0, 1, 2, 2, 0, 1, 2, 2);
         check.due("undo()", map.undo(), 0);
-        kinds(map, 0, 0, 0, 0, 0, 0, 0, 0, 0, 0, 0, 0);
+        check.kinds(map, 0, 0, 0, 0, 0, 0, 0, 0, 0, 0, 0, 0);
         check.due("value(6)", map.value(6), 1);
         check.due("clearText(), as the text stays", map.clearText(), 15);
     }
@@ -200,7 +188,7 @@ public final class EditsTest {
         check.due("value(2)", map.value(2), 1);
         check.due("value(4)", map.value(4), 2);
         check.due("value(5)", map.value(5), 3);
-        labels(map, 0, 1, 0, 0, 0, 1, 0, 0, 0, 1, 0, 0);
+        check.labels(map, 0, 1, 0, 0, 0, 1, 0, 0, 0, 1, 0, 0);
         check.due("setWeight(2, 0)", map.setWeight(2, 0), 9);
     }
 

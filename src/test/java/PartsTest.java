@@ -20,6 +20,7 @@ public final class PartsTest {
         ofPartWithWrongArguments();
         loopsOfTheWholeMap();
         loopsOfSmallerParts();
+        loopsOfWindingParts();
         oneSidedParts();
         loopsOverTheDoubleCorner();
         stepsWithinAPart();
@@ -27,12 +28,6 @@ public final class PartsTest {
         partsIf();
         partsIfOverSeams();
         check.end();
-    }
-
-    private static void labels(SeamMap map, int... due) {
-        for (int tile = 0; tile < due.length; tile++) {
-            check.due("label(" + tile + ")", map.label(tile), due[tile]);
-        }
     }
 
     private static void parts(SeamMap map, int... due) {
@@ -53,29 +48,29 @@ public final class PartsTest {
     private static void label() {
         check.promise(14, "label");
         SeamMap map = Check.map(ROWS);
-        labels(map, 0, 0, 2, 2, 0, 5, 5, 2, 8, 8, 10, 2);
+        check.labels(map, 0, 0, 2, 2, 0, 5, 5, 2, 8, 8, 10, 2);
         for (int tile : WRONG_TILES) {
             check.due("label(" + tile + ")", map.label(tile), UNKNOWN);
         }
-        labels(Check.map("001/101/000"), 0, 0, 2, 3, 0, 2, 0, 0, 0);
-        labels(Check.map("110/010/000"), 0, 0, 2, 2, 0, 2, 2, 2, 2);
+        check.labels(Check.map("001/101/000"), 0, 0, 2, 3, 0, 2, 0, 0, 0);
+        check.labels(Check.map("110/010/000"), 0, 0, 2, 2, 0, 2, 2, 2, 2);
     }
 
     private static void labelsOverSeams() {
         check.promise(14, "label");
         SeamMap map = Check.map(ROWS);
         map.setSeam(false, 1, 1);
-        labels(map, 0, 0, 2, 2, 0, 5, 5, 2, 8, 8, 10, 2);
+        check.labels(map, 0, 0, 2, 2, 0, 5, 5, 2, 8, 8, 10, 2);
         map.setSeam(true, 1, 0);
-        labels(map, 0, 0, 2, 2, 0, 5, 5, 2, 8, 8, 10, 2);
+        check.labels(map, 0, 0, 2, 2, 0, 5, 5, 2, 8, 8, 10, 2);
         map.setSeam(true, 1, 1);
-        labels(map, 0, 0, 2, 2, 0, 5, 5, 2, 8, 8, 10, 2);
+        check.labels(map, 0, 0, 2, 2, 0, 5, 5, 2, 8, 8, 10, 2);
         map.setSeam(true, 1, 2);
-        labels(map, 0, 0, 2, 2, 0, 5, 5, 2, 8, 8, 0, 2);
+        check.labels(map, 0, 0, 2, 2, 0, 5, 5, 2, 8, 8, 0, 2);
         map.setSeam(true, 2, 2);
-        labels(map, 0, 0, 2, 2, 0, 5, 5, 2, 8, 8, 0, 2);
+        check.labels(map, 0, 0, 2, 2, 0, 5, 5, 2, 8, 8, 0, 2);
         map.setSeam(true, 0, 2);
-        labels(map, 0, 0, 2, 2, 0, 5, 5, 2, 8, 8, 10, 2);
+        check.labels(map, 0, 0, 2, 2, 0, 5, 5, 2, 8, 8, 10, 2);
     }
 
     private static void part() {
@@ -170,6 +165,27 @@ public final class PartsTest {
         loops(map, 3, 1, 0);
         map.setSeam(false, 0, 0);
         loops(map, 0, 1, 0);
+    }
+
+    /** Loops that cross a seam several times, and two loops that make a third class together. */
+    private static void loopsOfWindingParts() {
+        check.promise(16, "ofPart, loops");
+        SeamMap map = Check.map("000/111/000/111/000/111/000/111/000/111/000/111");
+        map.setSeam(false, 1, 2);
+        ofPart(map, 0, 0, 18, 33, 3, 1, 0, 1, 9);
+        map.setSeam(false, 2, 2);
+        ofPart(map, 0, 0, 6, 9, 3, 1, 0, 2, 3);
+        map = Check.map("000/111/000/111/000/111/000/111/000/111");
+        map.setSeam(false, 1, 2);
+        loops(map, 0, 3, 0);
+        map = Check.map("00000/11101/11101/11101");
+        map.setSeam(false, 1, 0);
+        map.setSeam(true, 1, 3);
+        loops(map, 0, 15, 0);
+        loops(map, 5, 1, 0);
+        map.setSeam(true, 2, 4);
+        loops(map, 0, 15, 1);
+        loops(map, 5, 1, 0);
     }
 
     private static void oneSidedParts() {

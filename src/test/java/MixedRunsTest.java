@@ -1,40 +1,38 @@
-import java.util.Random;
-
-/** Long runs of calls with arguments by chance (of fixed seeds), all answers as PlainMap's. */
-public final class RandomRunsTest {
+/** Long runs of calls with mixed arguments, the same ones each time, all answers as PlainMap's. */
+public final class MixedRunsTest {
     private static final int RUNS = 600;
     private static final int CALLS = 512;
     /** No step of a run makes more calls than this, but for typing, which looks at the limit. */
     private static final int MOST_AT_ONCE = 15;
 
-    private static final Check check = new Check("RandomRunsTest");
+    private static final Check check = new Check("MixedRunsTest");
 
     private final int run;
-    private final Random random;
+    private long mixed;
     private final SeamMap map = new SeamMap();
     private final PlainMap plain = new PlainMap();
     /** How many kinds tiles get mostly; few kinds make great parts. */
     private final int usualKinds;
     private int calls;
 
-    private RandomRunsTest(int run) {
+    private MixedRunsTest(int run) {
         this.run = run;
-        this.random = new Random(run);
-        this.usualKinds = 2 + random.nextInt(5) % 4;
+        this.mixed = run;
+        this.usualKinds = 2 + numberBelow(5) % 4;
     }
 
     public static void main(String[] arguments) {
         for (int run = 0; run < RUNS && check.wrong() == 0; run++) {
-            new RandomRunsTest(run).calls();
+            new MixedRunsTest(run).calls();
         }
         check.end();
     }
 
     private void calls() {
         int size = run % 10 == 0 ? 12 : run % 2 == 0 ? 4 : 6;
-        reset(3 + random.nextInt(size - 2), 3 + random.nextInt(size - 2));
+        reset(3 + numberBelow(size - 2), 3 + numberBelow(size - 2));
         while (calls < CALLS - MOST_AT_ONCE && check.wrong() == 0) {
-            if (random.nextInt(100) < 60) {
+            if (numberBelow(100) < 60) {
                 ask();
             } else {
                 change(size);
@@ -48,17 +46,23 @@ public final class RandomRunsTest {
         check.due("run " + run + ", call " + calls + ": " + call, got, want);
     }
 
+    /** A linear congruential generator, so that each run is the same wherever it is run. */
+    private int numberBelow(int limit) {
+        mixed = mixed * 6364136223846793005L + 1442695040888963407L;
+        return (int) ((mixed >>> 33) % limit);
+    }
+
     private boolean roll(int percent) {
-        return random.nextInt(100) < percent;
+        return numberBelow(100) < percent;
     }
 
     private int wrongNumber() {
         int[] wrong = {Integer.MIN_VALUE, Integer.MAX_VALUE, -1, -2, -5, 6, 9, 10, 13, 144, 145};
-        return wrong[random.nextInt(wrong.length)];
+        return wrong[numberBelow(wrong.length)];
     }
 
     private int number(int below) {
-        return roll(3) ? wrongNumber() : roll(3) ? below : random.nextInt(below);
+        return roll(3) ? wrongNumber() : roll(3) ? below : numberBelow(below);
     }
 
     private int tile() {
@@ -66,7 +70,7 @@ public final class RandomRunsTest {
     }
 
     private int kind() {
-        return roll(90) ? random.nextInt(usualKinds) : number(6);
+        return roll(90) ? numberBelow(usualKinds) : number(6);
     }
 
     private void reset(int columns, int rows) {
@@ -87,11 +91,11 @@ public final class RandomRunsTest {
     }
 
     private void change(int size) {
-        switch (random.nextInt(14)) {
+        switch (numberBelow(14)) {
             case 0:
                 if (roll(10)) {
-                    reset(roll(80) ? 3 + random.nextInt(size - 2) : wrongNumber(),
-                            roll(80) ? 3 + random.nextInt(size - 2) : wrongNumber());
+                    reset(roll(80) ? 3 + numberBelow(size - 2) : wrongNumber(),
+                            roll(80) ? 3 + numberBelow(size - 2) : wrongNumber());
                 }
                 break;
             case 1:
@@ -120,7 +124,7 @@ public final class RandomRunsTest {
     }
 
     private void setSeam() {
-        boolean end = random.nextBoolean();
+        boolean end = roll(50);
         int kind = number(3);
         int shift = number(plain.value(end ? 0 : 1));
         due("setSeam(" + end + ", " + kind + ", " + shift + ")", map.setSeam(end, kind, shift),
@@ -156,11 +160,11 @@ public final class RandomRunsTest {
     private void typeWalk() {
         clearText();
         StringBuilder text = new StringBuilder();
-        for (int length = random.nextInt(16); length > 0; length--) {
-            text.append("fffrl".charAt(random.nextInt(5)));
+        for (int length = numberBelow(16); length > 0; length--) {
+            text.append("fffrl".charAt(numberBelow(5)));
         }
         if (roll(8)) {
-            text.append((char) random.nextInt(300));
+            text.append((char) numberBelow(300));
         }
         type(text.toString());
         for (int times = 0; times < 5; times++) {
@@ -174,18 +178,18 @@ public final class RandomRunsTest {
         }
         clearText();
         StringBuilder text = new StringBuilder(plain.describe(roll(10) ? 0 : -1));
-        for (int changes = random.nextInt(plain.tiles() + 1); changes > 0; changes--) {
-            int at = random.nextInt(text.length());
+        for (int changes = numberBelow(plain.tiles() + 1); changes > 0; changes--) {
+            int at = numberBelow(text.length());
             if (text.charAt(at) != '/') {
-                text.setCharAt(at, (char) ('0' + random.nextInt(usualKinds)));
+                text.setCharAt(at, (char) ('0' + numberBelow(usualKinds)));
             }
         }
         if (roll(15)) {
-            text.setCharAt(random.nextInt(text.length()), "/0567.f".charAt(random.nextInt(7)));
+            text.setCharAt(numberBelow(text.length()), "/0567.f".charAt(numberBelow(7)));
         } else if (roll(10)) {
-            text.setLength(random.nextInt(text.length()));
+            text.setLength(numberBelow(text.length()));
         } else if (roll(10)) {
-            text.append("/0f".charAt(random.nextInt(3)));
+            text.append("/0f".charAt(numberBelow(3)));
         }
         type(text.toString());
         due("readTiles()", map.readTiles(), plain.readTiles());
@@ -200,7 +204,7 @@ public final class RandomRunsTest {
     }
 
     private void ask() {
-        switch (random.nextInt(16)) {
+        switch (numberBelow(16)) {
             case 0:
                 value();
                 break;
@@ -268,7 +272,7 @@ public final class RandomRunsTest {
     private void ofPart() {
         int tile = tile();
         int label = roll(95) && plain.label(tile) >= 0 ? plain.label(tile) : tile;
-        int what = roll(40) ? 4 + random.nextInt(2) : number(8);
+        int what = roll(40) ? 4 + numberBelow(2) : number(8);
         due("ofPart(" + label + ", " + what + ")", map.ofPart(label, what),
                 plain.ofPart(label, what));
     }
@@ -290,14 +294,14 @@ public final class RandomRunsTest {
     private void route() {
         int tile = tile();
         int other = tile();
-        int k = roll(10) ? wrongNumber() : random.nextInt(9) - 1;
+        int k = roll(10) ? wrongNumber() : numberBelow(9) - 1;
         due("route(" + tile + ", " + other + ", " + k + ")", map.route(tile, other, k),
                 plain.route(tile, other, k));
     }
 
     private void within() {
         int tile = tile();
-        int distance = roll(10) ? wrongNumber() : random.nextInt(40);
+        int distance = roll(10) ? wrongNumber() : numberBelow(40);
         due("within(" + tile + ", " + distance + ")", map.within(tile, distance),
                 plain.within(tile, distance));
     }
