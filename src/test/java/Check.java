@@ -14,6 +14,11 @@ final class Check {
         promise = "promise " + number + " (" + what + ")";
     }
 
+    /** Names the sentence of the document that the next comparisons belong to. */
+    void sentence(String section, String words) {
+        promise = section + ", \"" + words + "\"";
+    }
+
     void due(String call, long got, long want) {
         compared++;
         if (got != want) {
@@ -39,6 +44,10 @@ final class Check {
         for (int tile = 0; tile < due.length; tile++) {
             due("kind(" + tile + ")", map.kind(tile), due[tile]);
         }
+    }
+
+    int compared() {
+        return compared;
     }
 
     int wrong() {
