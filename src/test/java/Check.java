@@ -91,7 +91,8 @@ final class Check {
         for (int what = 0; what <= 8; what++) {
             all.append(map.value(what)).append(' ');
         }
-        for (int tile = 0; map.kind(tile) >= 0; tile++) {
+        int tiles = map.value(0) * map.value(1);
+        for (int tile = 0; tile < tiles; tile++) {
             all.append("| ").append(map.kind(tile)).append(' ').append(map.label(tile));
             all.append(' ').append(map.distance(0, tile));
             all.append(' ').append(map.neighbour(tile, tile % 4));

@@ -160,6 +160,18 @@ final class PartAndWaySentences {
         map = Check.map("010101/010101/010101");
         seams(map, 0, 0, 1, 2);
         loops(map, 0, 1 + 4);
+        // six rows with a loop that leads over the side seam six times
+        map = Check.map("000/111/000/111/000/111/000/111/000/111/000/111");
+        seams(map, 1, 2, 0, 0);
+        loops(map, 0, 1);
+        // from 0 over the side seam to 8, and from 5 over it to 6, but no way back
+        map = Check.map("011/100/010");
+        seams(map, 1, 1, 1, 2);
+        loops(map, 0, 1);
+        // from 2 over the side seam to 6, and from there over the end seam to 2
+        map = Check.map("010/101/000");
+        seams(map, 1, 2, 1, 2);
+        loops(map, 0, 1 + 8);
         // twice over the side seam and once over the end seam: not an odd number and an odd one
         map = Check.map("0000/1111/0000/1111/0001/1011");
         seams(map, 1, 2, 1, 0);
@@ -186,6 +198,10 @@ final class PartAndWaySentences {
         seams(map, 1, 0, 1, 0);
         loops(map, 0, 15);
         loops(map, 6, 1);
+        // round by 2, 5 and 8 over the end seam, and by 8, 3, 4 and 5 over the side seam
+        map = Check.map("110/000/110");
+        seams(map, 2, 0, 1, 0);
+        loops(map, 2, 15);
     }
 
     private static void oneSided() {
@@ -217,6 +233,10 @@ final class PartAndWaySentences {
         seams(map, 1, 1, 2, 2);
         sides(map, 0, 1);
         seams(map, 2, 2, 2, 2);
+        sides(map, 0, 0);
+        // from 0 over the end seam to 6, from there over the side seam to 5, but no way back
+        map = Check.map("011/110/010");
+        seams(map, 2, 0, 2, 0);
         sides(map, 0, 0);
     }
 
@@ -326,6 +346,11 @@ final class PartAndWaySentences {
         map.reset(4, 3);
         Check.retype(map, "012/345/012/34");
         check.due("readTiles() of four rows", map.readTiles(), -103);
+        String[] others = {"0", "5", ".", "0/", "-", "\n", "\\"};
+        for (String between : others) {
+            Check.retype(map, "0123" + between + "4501/2345");
+            check.due("readTiles() with " + between, map.readTiles(), -104);
+        }
         Check.retype(map, "0123/4501/2345");
         check.due("readTiles()", map.readTiles(), 10);
         check.kinds(map, 0, 1, 2, 3, 4, 5, 0, 1, 2, 3, 4, 5);

@@ -227,6 +227,8 @@ final class PartSentences {
     private static void ofPartBeside() {
         SeamMap map = Check.map("101/000/101");
         properties(map, 1, 0, 5, 8, 4, 1, 0, 4, 2);
+        ofPart(map, 0, 6, 1);
+        ofPart(map, 1, 6, 4);
         map.setSeam(false, 1, 0);
         properties(map, 1, 0, 5, 8, 2, 3, 0, 2, 2);
         map.setSeam(true, 1, 0);

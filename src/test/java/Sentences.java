@@ -24,15 +24,24 @@ final class Sentences {
         all.add(new Sentence(section, words, null));
     }
 
-    /** Runs all tests; one that compares nothing is wrong. */
+    /** Runs all tests; one that compares nothing is wrong, or one that does not come to its end. */
     void run(Check check) {
         for (Sentence sentence : all) {
             if (sentence.test != null) {
                 check.sentence(sentence.section, sentence.words);
                 int before = check.compared();
-                sentence.test.run();
+                run(check, sentence.test);
                 check.isTrue("it has a test", check.compared() > before);
             }
+        }
+    }
+
+    /** A sentence that is broken shall not keep the others from being tested. */
+    private static void run(Check check, Runnable test) {
+        try {
+            test.run();
+        } catch (RuntimeException exception) {
+            check.isTrue("no " + exception, false);
         }
     }
 

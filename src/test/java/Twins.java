@@ -3,6 +3,8 @@ import java.util.function.ToIntFunction;
 
 /** Two maps with the same past: a call to one of them that changes nothing leaves them alike. */
 final class Twins {
+    private static final int MOST_UNDOS = 12;
+
     private Twins() {
     }
 
@@ -23,11 +25,10 @@ final class Twins {
         for (int what = 0; what <= 4; what++) {
             all.append(" walk ").append(map.walk(0, 0, what));
         }
-        int left = 0;
-        while (left >= 0) {
-            left = map.undo();
-            all.append(" undo ").append(left).append(" kinds");
-            for (int tile = 0; map.kind(tile) >= 0; tile++) {
+        int tiles = map.value(0) * map.value(1);
+        for (int times = 0; times <= MOST_UNDOS; times++) {
+            all.append(" undo ").append(map.undo()).append(" kinds");
+            for (int tile = 0; tile < tiles; tile++) {
                 all.append(' ').append(map.kind(tile));
             }
         }

@@ -98,9 +98,28 @@ final class WalkAndSeamSentences {
     private static void lastCall() {
         SeamMap map = new SeamMap();
         for (int call = 1; call <= 511; call++) {
-            map.setTile(call % 30, 1 + call % 5);
+            map.setTile(call % 30, 1 + call % 4);
+        }
+        check.due("kind(1), the 512th call", map.kind(1), 4);
+        map = new SeamMap();
+        for (int call = 1; call <= 511; call++) {
+            map.setTile(0, 0);
         }
         check.due("value(8), the 512th call", map.value(8), 12);
+        map = new SeamMap();
+        for (int call = 1; call <= 510; call += 2) {
+            map.setTile(0, 1);
+            map.undo();
+        }
+        map.setTile(0, 2);
+        check.due("undo(), the 512th call", map.undo(), 0);
+        map = new SeamMap();
+        for (int call = 1; call <= 510; call += 2) {
+            map.type('r');
+            map.clearText();
+        }
+        map.type('r');
+        check.due("clearText(), the 512th call", map.clearText(), 1);
         map = new SeamMap();
         for (int call = 1; call <= 511; call++) {
             map.type('f');
@@ -142,8 +161,10 @@ final class WalkAndSeamSentences {
 
     private static int tilesAhead(SeamMap map, int direction) {
         int tiles = 1;
-        for (int at = map.neighbour(0, direction); at >= 0; at = map.neighbour(at, direction)) {
+        int at = map.neighbour(0, direction);
+        while (at >= 0 && tiles <= 12) {
             tiles++;
+            at = map.neighbour(at, direction);
         }
         return tiles;
     }
